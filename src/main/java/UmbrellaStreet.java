@@ -441,6 +441,8 @@ public final class UmbrellaStreet {
 
     /** What the texts have told. */
     private static final class Plan {
+        static final int WALKER_NUMBERS = 7;
+
         int lanes = 2;
         int places = 6;
         final boolean[] awning = new boolean[CELLS];
@@ -489,6 +491,21 @@ public final class UmbrellaStreet {
             if (hasCell(cell)) {
                 awning[cell] = true;
             }
+        }
+
+        /** The numbers are those of a line that tells a walker, in its order. */
+        void welcome(int[] numbers) {
+            if (numbers.length < WALKER_NUMBERS || numbers[0] < 0 || numbers[0] >= WALKERS) {
+                return;
+            }
+            int walker = numbers[0];
+            told[walker] = true;
+            lane[walker] = numbers[1];
+            way[walker] = numbers[2];
+            start[walker] = numbers[3];
+            height[walker] = numbers[4];
+            size[walker] = numbers[5];
+            rule[walker] = numbers[6];
         }
 
         void forget(int walker) {
@@ -540,6 +557,7 @@ public final class UmbrellaStreet {
         private static final int SIGN = 3;
 
         final int[] bytes = new int[MOST_BYTES];
+        final int[] numbers = new int[Plan.WALKER_NUMBERS];
         int length;
         int lines;
         /** Where the token read last begins, where it ends, what it is. */
@@ -601,84 +619,58 @@ public final class UmbrellaStreet {
         }
 
         boolean readStreet(Plan plan) {
-            int lanes = readNumber(1, MOST_LANES);
-            if (lanes == NONE) {
+            if (!reads(0, 1, MOST_LANES) || !reads(1, 1, MOST_PLACES)) {
                 return false;
             }
-            int places = readNumber(1, MOST_PLACES);
-            if (places == NONE) {
-                return false;
-            }
-            plan.lay(lanes, places);
+            plan.lay(numbers[0], numbers[1]);
             return true;
         }
 
         boolean readAwning(Plan plan) {
-            int place = readNumber(0, plan.places - 1);
-            if (place == NONE) {
+            if (!reads(0, 0, plan.places - 1) || !reads(1, 0, plan.lanes - 1)) {
                 return false;
             }
-            int lane = readNumber(0, plan.lanes - 1);
-            if (lane == NONE) {
-                return false;
-            }
-            plan.cover(MOST_LANES * place + lane);
+            plan.cover(MOST_LANES * numbers[0] + numbers[1]);
             return true;
         }
 
         boolean readWalker(Plan plan) {
-            int walker = readNumber(0, WALKERS - 1);
-            if (walker < 0 || walker >= WALKERS) {
+            if (!reads(0, 0, WALKERS - 1) || !reads(1, 0, plan.lanes - 1) || !reads(2, 0, 1)) {
                 return false;
             }
-            plan.lane[walker] = readNumber(0, plan.lanes - 1);
-            if (plan.lane[walker] == NONE) {
+            if (!reads(3, 0, MOST_START) || !reads(4, 1, MOST_HEIGHT)) {
                 return false;
             }
-            plan.way[walker] = readNumber(0, 1);
-            if (plan.way[walker] == NONE) {
+            if (!reads(5, 0, LARGEST) || !reads(6, 0, RIGHT)) {
                 return false;
             }
-            plan.start[walker] = readNumber(0, MOST_START);
-            if (plan.start[walker] == NONE) {
-                return false;
-            }
-            plan.height[walker] = readNumber(1, MOST_HEIGHT);
-            if (plan.height[walker] == NONE) {
-                return false;
-            }
-            plan.size[walker] = readNumber(0, LARGEST);
-            if (plan.size[walker] == NONE) {
-                return false;
-            }
-            plan.rule[walker] = readNumber(0, RIGHT);
-            plan.told[walker] = plan.rule[walker] != NONE;
-            return plan.told[walker];
+            plan.welcome(numbers);
+            return true;
         }
 
         boolean readGone(Plan plan) {
-            int walker = readNumber(0, WALKERS - 1);
-            if (walker == NONE) {
+            if (!reads(0, 0, WALKERS - 1)) {
                 return false;
             }
-            plan.forget(walker);
+            plan.forget(numbers[0]);
             return true;
         }
 
         boolean readRain(Plan plan) {
-            int first = readNumber(0, TICKS - 1);
-            if (first == NONE) {
+            if (!reads(0, 0, TICKS - 1) || !reads(1, numbers[0], TICKS - 1) || !reads(2, 0, MOST_RAIN)) {
                 return false;
             }
-            int last = readNumber(first, TICKS - 1);
-            if (last == NONE) {
+            plan.pour(numbers[0], numbers[1], numbers[2]);
+            return true;
+        }
+
+        /** Reads number i of a line; says whether it can stand there. */
+        boolean reads(int i, int least, int most) {
+            int number = readNumber(least, most);
+            if (number == NONE || i < 0 || i >= numbers.length) {
                 return false;
             }
-            int amount = readNumber(0, MOST_RAIN);
-            if (amount == NONE) {
-                return false;
-            }
-            plan.pour(first, last, amount);
+            numbers[i] = number;
             return true;
         }
 

@@ -74,6 +74,8 @@ public final class SellerTest {
         Due.is("of several the least place", x.where(0), 0);
         Due.is("for 18", x.where(1), 18);
         x = Due.told("street 1 12;rain 0 59 99;walker 0 0 0 0 5 0 0");
+        Due.is("at place 10, one tick ahead of the last", x.seller(10, 99), 99);
+        Due.is("at place 11, the last one", x.seller(11, 1), 0);
         Due.is("no dearer than 99", x.where(1), 99);
         Due.is("99 comes in", x.where(2), 99);
     }

@@ -45,6 +45,9 @@ public final class SizesTest {
         Due.is("as told: ticks stay", x.count(4), 2);
         Due.is("as told: wet stays", x.walker(4, 1), 6);
         Due.is("the whole street, not the rest", x.pays(4, 0, 0, 0), 30);
+        Due.tell(x, "street 1 2;rain 0 59 1;walker 0 0 0 0 5 0 0;walker 5 0 1 0 5 0 0");
+        Due.is("60 ticks, also where nobody gets on", x.pays(0, 0, 0, 0), 60);
+        Due.is("all of them", x.common(99, 99, 1), 120);
     }
 
     private static void twoBeside() {
@@ -89,6 +92,8 @@ public final class SizesTest {
         Due.is("no walker", x.pays(6, 0, 0, 0), UNKNOWN);
         Due.is("no walker -1", x.pays(-1, 0, 0, 0), UNKNOWN);
         Due.is("size 3 of the first", x.pays(0, 3, 0, 0), OUTSIDE);
+        Due.is("size 3 of the second", x.pays(0, 12, 0, 0), OUTSIDE);
+        Due.is("size 3 of the third", x.pays(0, 48, 0, 0), OUTSIDE);
         Due.is("size 3 of the last", x.pays(0, 192, 0, 0), OUTSIDE);
         Due.is("sizes of 2", x.pays(0, 170, 0, 0), 0);
         Due.is("c 100", x.pays(0, 0, 100, 0), OUTSIDE);
@@ -96,6 +101,8 @@ public final class SizesTest {
         Due.is("p 100", x.pays(0, 0, 0, 100), OUTSIDE);
         Due.is("p -1", x.pays(0, 0, 0, -1), OUTSIDE);
         Due.is("four are not too many", x.rests(1, 1, 0), 1);
+        Due.is("four, by 0", x.common(1, 0, 0), 0);
+        Due.is("four, paid", x.common(1, 0, 1), 0);
         refusedCosts(x);
         Due.tell(x, "walker 5 0 0 3 5 0 0");
         Due.is("five: pays", x.pays(0, 0, 0, 0), NOT);

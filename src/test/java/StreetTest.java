@@ -190,6 +190,7 @@ public final class StreetTest {
         Due.is("at two rims", wetBeside("1 0 0 5 1", "2 0 0 5 2"), 17);
         Due.is("under one, at the rim of another", wetBeside("1 0 0 5 2", "2 0 0 5 2"), 0);
         Due.is("the rim first, then over it", wetBeside("2 0 0 5 2", "1 0 0 5 2"), 0);
+        Due.is("of one who is not on it yet", wetBeside("1 0 1 5 2"), 9);
         Due.is("at another place", wetBeside("1 1 0 5 2"), 9);
         UmbrellaStreet x = Due.told("awning 1 0;rain 0 1 5;rain 1 1 8;walker 0 0 0 0 5 0 0");
         x.go(1);

@@ -74,6 +74,8 @@ public final class SumsTest {
         UmbrellaStreet x = new UmbrellaStreet();
         Due.is("no wind: as fast as one can", x.pace(1, 99, 1, 0), 20);
         Due.is("with the wind", x.pace(10, 20, 5, 7), 7);
+        Due.is("as slow as the wind", x.pace(1, 99, 1, 2), 2);
+        Due.is("as slow as one can", x.pace(1, 99, 1, 1), 1);
         Due.is("a great top: faster than the wind", x.pace(99, 1, 1, 3), 20);
         // T and F W are like: beyond the wind all paces are as good, the least is the wind's.
         Due.is("of several the least", x.pace(20, 5, 9, 4), 4);

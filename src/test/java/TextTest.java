@@ -85,6 +85,14 @@ public final class TextTest {
         fault("rain0 0 0", none);
         fault("streets 2 6", 0);
         fault("stree 2 6", 0);
+        fault("xtreet 2 6", 0);
+        fault("streex 2 6", 0);
+        fault("gonez 0", 0);
+        fault("gonea 0", 0);
+        fault("gone` 0", 4);
+        fault("gone{ 0", 4);
+        fault("gone :", 5);
+        fault("gone /", 5);
         fault(" Street 2 6", 1);
         fault("street2 6x", 9);
         fault("street 2 6 gone 1", 11);
@@ -219,6 +227,9 @@ public final class TextTest {
         Due.is("rain of tick 1", x.walker(0, 1), 9);
         Due.tell(x, "street 3 4");
         Due.is("a new street is open", x.cell(9, 0), 0);
+        Due.tell(x, "awning 0 0;awning 3 2;street 3 4");
+        Due.is("its first cell is open", x.cell(0, 0), 0);
+        Due.is("its last cell is open", x.cell(14, 0), 0);
         Due.is("a new street is empty", x.count(2), 0);
         Due.tell(x, "walker 0 0 0 0 5 0 0");
         x.go(1);
