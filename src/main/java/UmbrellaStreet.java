@@ -664,27 +664,18 @@ public final class UmbrellaStreet {
             return true;
         }
 
-        /** Reads number i of a line; says whether it can stand there. */
+        /** Reads the next token as number i of a line; says whether it can stand there. */
         boolean reads(int i, int least, int most) {
-            int number = readNumber(least, most);
-            if (number == NONE || i < 0 || i >= numbers.length) {
+            readToken();
+            if (kind != DIGITS || to - from > 2 || i < 0 || i >= numbers.length) {
                 return false;
             }
-            numbers[i] = number;
-            return true;
-        }
-
-        /** The next token as a number; NONE if it cannot stand there. */
-        int readNumber(int least, int most) {
-            readToken();
-            if (kind != DIGITS || to - from > 2) {
-                return NONE;
-            }
             int number = 0;
-            for (int i = from; i < to; i++) {
-                number = 10 * number + byteAt(i) - '0';
+            for (int at = from; at < to; at++) {
+                number = 10 * number + byteAt(at) - '0';
             }
-            return isNotIn(number, least, most) ? NONE : number;
+            numbers[i] = number;
+            return !isNotIn(number, least, most);
         }
 
         boolean isWord(String word) {
