@@ -9,6 +9,7 @@ public final class StopTest {
         standing();
         oneUmbrella();
         chains();
+        eightUmbrellas();
         likeHeights();
         beyondTheEnds();
         Due.end();
@@ -95,6 +96,20 @@ public final class StopTest {
         // Rain falls on the highest only.
         row("the highest over a place", new int[][] {{5, 3, 9}, {6, 1, 4}, {4, 1, 2}},
                 r, r, r + 2560, 0, 0, 0, 0, 0, r + 2560, r, r, r, r, r, r, r, r, r, r, r);
+    }
+
+    private static void eightUmbrellas() {
+        UmbrellaStreet x = new UmbrellaStreet();
+        for (int i = 0; i < 6; i++) {
+            x.stand(2 * i, 1, 9);
+        }
+        x.stand(14, 1, 0);
+        x.stand(15, 1, 5);
+        // 15 runs off at 14, by 512, and the lowest of all, by half of 1536, onto who stands at 15.
+        Due.is("the lowest of eight runs off too", x.wet(7), 768);
+        Due.is("nothing runs onto the owner of the lowest", x.wet(6), 0);
+        Due.is("the driest beside eight", x.driest(0), 12);
+        Due.is("in the rain alone", x.driest(1), 1024);
     }
 
     private static void likeHeights() {

@@ -111,6 +111,10 @@ public final class StreetTest {
         at(x, "no lane beside", 0, 4);
         Due.is("waited 0", x.walker(0, 3), 3);
         Due.is("waited 1", x.walker(1, 3), 3);
+        x = Due.told("street 1 2;walker 0 0 0 0 5 0 2;walker 1 0 1 0 5 0 1");
+        x.go(4);
+        at(x, "no lane beside, on the other side", 0, 4);
+        Due.is("waited there", x.walker(0, 3), 3);
         // Somebody is beside: it stays.
         x = Due.told("street 2 2;walker 0 0 0 0 5 0 2;walker 1 0 1 0 5 0 0;walker 2 1 0 0 5 0 0;walker 3 1 1 0 5 0 0");
         x.go(2);
